@@ -1,0 +1,21 @@
+public final class Promise16CurrentTest {
+    public static void main(String[] args) {
+        Check check = new Check("promise 16, current");
+        CapKernel k = new CapKernel();
+        check.is("at first", 1, k.current());
+        k.priority(2, 2);
+        check.is("the greatest PRIORITY", 2, k.current());
+        k.await(3);
+        check.is("of those that are READY", 1, k.current());
+        k.receive(2, -1);
+        check.is("the last one READY", 3, k.current());
+        k.send(2, 4, -1);
+        check.is("who becomes READY goes to the end", 3, k.current());
+        k.signal(3);
+        check.is("but PRIORITY goes before", 2, k.current());
+        k = new CapKernel();
+        Check.NONE_CURRENT.on(k);
+        check.is("none", 0, k.current());
+        check.end();
+    }
+}
