@@ -70,6 +70,10 @@ public final class Promise08SendTest {
         k.send(2, 5, 4);
         check.heard(k, 1, 0, 0, 5, 0, -1);
         check.is("nothing CAME OF it", 0, k.look(2, 4, 3));
+        CapKernel all = new CapKernel();
+        all.receive(2, 6);
+        all.send(2, 5, 3);
+        check.is("all its RIGHTS", 7, all.look(1, 6, 1));
         CapKernel n = new CapKernel();
         n.receive(2, -1);
         n.send(2, 5, 3);

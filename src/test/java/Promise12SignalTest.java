@@ -38,6 +38,12 @@ public final class Promise12SignalTest {
         check.heard(k, 2, 0, 0, 1, 0, -1);
         check.is("the first woken", 3, k.pass());
         check.is("the second woken", 2, k.pass());
+        k = new CapKernel();
+        k.pass();
+        k.await(3);
+        k.pass();
+        k.await(3);
+        check.is("1 still waits", 1, k.signal(3));
     }
 
     private static void refusals(Check check) {
