@@ -23,10 +23,16 @@ final class Check {
     };
 
     private final String name;
+    private String sentence = "";
     private int wrong;
 
     Check(String name) {
         this.name = name;
+    }
+
+    /** The document's words that the checks from here on are for. */
+    void about(String words) {
+        sentence = " [" + words + "]";
     }
 
     void is(String call, int want, int got) {
@@ -59,6 +65,38 @@ final class Check {
         }
         if (!stateOf(k).equals(before)) {
             tell(call + " was refused, but changed something");
+        }
+    }
+
+    void takes(String call, Setup setup, Act act) {
+        CapKernel k = new CapKernel();
+        setup.on(k);
+        try {
+            act.on(k);
+        } catch (RuntimeException thrown) {
+            tell(call + " threw " + thrown + ", but nothing speaks against it");
+        }
+    }
+
+    /** The ADDRESS of a SLOT of the TABLE that a SLOT of the ROOT leads to. */
+    static int in(int rootSlot, int slot) {
+        return 8 + 8 * rootSlot + slot;
+    }
+
+    /** All that look answers of a capability. */
+    void looks(CapKernel k, int thread, int address, int... due) {
+        if (isEmpty(k, thread, address)) {
+            tell("ADDRESS " + address + " of " + thread + " is empty");
+            return;
+        }
+        for (int what = 0; what < due.length; what++) {
+            is("look(" + thread + ", " + address + ", " + what + ")", due[what], k.look(thread, address, what));
+        }
+    }
+
+    void isEmptyAt(CapKernel k, int thread, int address) {
+        if (!isEmpty(k, thread, address)) {
+            tell("ADDRESS " + address + " of " + thread + " is not empty");
         }
     }
 
@@ -121,7 +159,7 @@ final class Check {
 
     void tell(String what) {
         wrong++;
-        System.out.println(name + ": " + what);
+        System.out.println(name + sentence + ": " + what);
     }
 
     void end() {

@@ -6,17 +6,17 @@ public final class Promise08SendTest {
         firstReceiverFirst(check);
         withACapability(check);
         withACapabilityThatWaits(check);
-        goneMeanwhile(check);
         movedMeanwhile(check);
-        intoASlotAsItWas(check);
-        intoASlotThatIsNoMore(check);
-        refusals(check);
+        eachSumOfRights(check);
+        refusedNumbersAndSlots(check);
+        refusedKinds(check);
+        refusedServers(check);
         check.end();
     }
 
     private static void toOneThatReceives(Check check) {
+        check.about("if one receives, the first one gets it and is READY: 0");
         CapKernel k = new CapKernel();
-        k.mint(2, 4, 6, 44);
         k.receive(2, 7);
         k.mint(2, 5, 2, 99);
         check.is("send", 0, k.send(5, -123, -1));
@@ -28,9 +28,11 @@ public final class Promise08SendTest {
     }
 
     private static void toNobodyYet(Check check) {
+        check.about("else the thread is SENDING: 1");
         CapKernel k = new CapKernel();
         check.is("send", 1, k.send(2, Integer.MAX_VALUE, -1));
         check.heard(k, 1, 1, 0, 0, 0, 0);
+        check.is("the next is CURRENT", 2, k.current());
         k.mint(2, 4, 2, 200);
         check.is("a second", 1, k.send(4, 6, -1));
         check.is("the first one's message", 0, k.receive(2, -1));
@@ -38,52 +40,53 @@ public final class Promise08SendTest {
         check.heard(k, 1, 0, 0, 0, 0, 0);
         check.is("the second one's", 0, k.receive(2, -1));
         check.heard(k, 3, 0, 0, 6, 200, -1);
+        k = new CapKernel();
+        k.retype(1, 1, 4);
+        k.pass();
+        k.receive(2, -1);
+        check.is("one that receives elsewhere does not count", 1, Check.passTo(k, 1).send(4, 1, -1));
+        check.is("it still receives", 4, k.thread(2, 0));
     }
 
     private static void firstReceiverFirst(Check check) {
+        check.about("if one receives, the first one gets it and is READY");
         CapKernel k = new CapKernel();
-        k.pass();
-        k.receive(2, -1);
-        k.receive(2, -1);
+        Check.passTo(k, 3).receive(2, -1);
+        Check.passTo(k, 2).receive(2, -1);
+        k.priority(2, 3);
         k.send(2, 1, -1);
-        check.heard(k, 2, 0, 0, 1, 0, -1);
-        check.is("3 receives still", 4, k.thread(3, 0));
+        check.heard(k, 3, 0, 0, 1, 0, -1);
+        check.is("2 receives still, for all its PRIORITY", 4, k.thread(2, 0));
         k.send(2, 2, -1);
-        check.heard(k, 3, 0, 0, 2, 0, -1);
+        check.heard(k, 2, 0, 0, 2, 0, -1);
     }
 
     private static void withACapability(Check check) {
+        check.about("a WORD, and the capability at the ADDRESS with (-1 none)");
         CapKernel k = new CapKernel();
         k.receive(2, 6);
         k.mint(3, 4, 3, 17);
         check.is("send with one", 0, k.send(2, 5, 4));
         check.heard(k, 1, 0, 0, 5, 0, 6);
-        int[] due = {2, 3, 17, 0, 0};
-        for (int what = 0; what < due.length; what++) {
-            check.is("look(1, 6, " + what + ")", due[what], k.look(1, 6, what));
-        }
+        check.looks(k, 1, 6, 2, 3, 17, 0, 0);
         check.is("it is DERIVED from the sender's", 1, k.look(2, 4, 3));
         check.is("taken back", 1, k.revoke(4));
-        k.pass();
-        k.pass();
-        check.is("1 receives, into a full SLOT", 1, k.receive(2, 3));
-        k.send(2, 5, 4);
-        check.heard(k, 1, 0, 0, 5, 0, -1);
-        check.is("nothing CAME OF it", 0, k.look(2, 4, 3));
-        CapKernel all = new CapKernel();
-        all.receive(2, 6);
-        all.send(2, 5, 3);
-        check.is("all its RIGHTS", 7, all.look(1, 6, 1));
-        CapKernel n = new CapKernel();
-        n.receive(2, -1);
-        n.send(2, 5, 3);
-        check.heard(n, 1, 0, 0, 5, 0, -1);
-        check.is("none wanted", 12, n.count(0));
+        k.retype(1, 3, 5);
+        k.copy(1, Check.in(5, 7), 7);
+        Check.passTo(k, 1).receive(2, 6);
+        check.is("one of a TABLE", 0, Check.passTo(k, 2).send(2, 5, Check.in(5, 7)));
+        check.looks(k, 1, 6, 0, 7, 0, 0, 4);
+        for (int slot = 0; slot < 4; slot++) {
+            CapKernel n = new CapKernel();
+            n.receive(2, 7);
+            check.is("the one at " + slot, 0, n.send(2, 0, slot));
+            check.looks(n, 1, 7, new int[] {1, 0, 1, 2}[slot], slot == 0 ? 2 : 7, slot == 0 ? 2 : 0, 0, 0);
+        }
     }
 
     private static void withACapabilityThatWaits(Check check) {
+        check.about("else the thread is SENDING: 1");
         CapKernel k = new CapKernel();
-        k.retype(1, 3, 4);
         k.mint(3, 5, 7, 4);
         k.priority(1, 2);
         k.mint(2, 6, 6, 12);
@@ -96,71 +99,43 @@ public final class Promise08SendTest {
         check.is("the sender is CURRENT by its PRIORITY", 1, k.current());
     }
 
-    private static void goneMeanwhile(Check check) {
-        CapKernel k = new CapKernel();
-        Check.share(k, 3, 6);
-        Check.passTo(k, 2).send(2, 77, 6);
-        Check.passTo(k, 3).delete(6);
-        Check.passTo(k, 1);
-        check.is("1 takes back what 2 is sending", 1, k.revoke(3));
-        check.is("the message comes without it", 0, k.receive(2, 7));
-        check.heard(k, 1, 0, 0, 77, 0, -1);
-        if (!Check.isEmpty(k, 1, 7)) {
-            check.tell("a capability came that is gone");
-        }
-    }
-
     private static void movedMeanwhile(Check check) {
+        check.about("A capability that is gone meanwhile does not come.");
+        // One that is moved is not gone: it stays what it is.
         CapKernel k = new CapKernel();
         k.retype(1, 3, 4);
-        k.mint(3, 8 + 8 * 4, 7, 5);
+        k.mint(3, Check.in(4, 0), 7, 5);
         Check.share(k, 4, 6);
-        k.send(2, 1, 8 + 8 * 4);
-        Check.passTo(k, 2).move(8 + 8 * 6, 7);
-        k.copy(3, 8 + 8 * 6, 7);
+        k.send(2, 1, Check.in(4, 0));
+        Check.passTo(k, 2).move(Check.in(6, 0), 7);
+        k.copy(3, Check.in(6, 0), 7);
         check.is("3 receives", 0, Check.passTo(k, 3).receive(2, 7));
         check.heard(k, 3, 0, 0, 1, 0, 7);
         check.is("that capability came, where it stands now", 5, k.look(3, 7, 2));
         check.is("it is DERIVED from it", 1, k.look(2, 7, 3));
     }
 
-    private static void intoASlotAsItWas(Check check) {
-        CapKernel k = new CapKernel();
-        k.retype(1, 3, 4);
-        Check.share(k, 4, 7);
-        Check.passTo(k, 2).receive(2, 8 + 8 * 7 + 5);
-        Check.passTo(k, 1).move(4, 5);
-        check.is("send", 0, k.send(2, 3, 3));
-        check.heard(k, 2, 0, 0, 3, 0, 8 + 8 * 7 + 5);
-        check.is("it is in the TABLE", 2, k.look(1, 8 + 8 * 5 + 5, 0));
-        Check.passTo(k, 2).receive(2, 8 + 8 * 7 + 6);
-        Check.passTo(k, 1).revoke(5);
-        check.is("2 reaches the TABLE no more", 4, k.thread(2, 0));
-        k.send(2, 4, 3);
-        check.heard(k, 2, 0, 0, 4, 0, 8 + 8 * 7 + 6);
-        check.is("but it is still there", 2, k.look(1, 8 + 8 * 5 + 6, 0));
+    private static void eachSumOfRights(Check check) {
+        check.about("(WRITE; for a capability that goes with it GRANT too)");
+        for (int rights = 0; rights <= 7; rights++) {
+            int some = rights;
+            Check.Setup setup = k -> k.copy(2, 4, some);
+            if ((rights & 2) != 0) {
+                check.takes("RIGHTS " + rights, setup, k -> k.send(4, 0, -1));
+            } else {
+                check.refuses(Check.RIGHTS, "RIGHTS " + rights, setup, k -> k.send(4, 0, -1));
+            }
+            if ((rights & 6) == 6) {
+                check.takes("RIGHTS " + rights + " with one", setup, k -> k.send(4, 0, 3));
+            } else {
+                check.refuses(Check.RIGHTS, "RIGHTS " + rights + " with one", setup, k -> k.send(4, 0, 3));
+            }
+        }
+        check.takes("what goes with it needs no RIGHTS", k -> k.copy(3, 4, 0), k -> k.send(2, 0, 4));
     }
 
-    private static void intoASlotThatIsNoMore(Check check) {
-        CapKernel k = new CapKernel();
-        k.retype(1, 3, 4);
-        Check.share(k, 4, 7);
-        Check.passTo(k, 2).receive(2, 8 + 8 * 7 + 6);
-        check.is("the TABLE is gone", 3, Check.passTo(k, 1).revoke(1));
-        check.is("send", 0, k.send(2, 4, 3));
-        check.heard(k, 2, 0, 0, 4, 0, -1);
-        check.is("nothing CAME OF it", 0, k.look(1, 3, 3));
-        k = new CapKernel();
-        k.retype(1, 3, 4);
-        Check.share(k, 4, 7);
-        Check.passTo(k, 2).receive(2, 8 + 8 * 7 + 6);
-        Check.passTo(k, 1).copy(1, 8 + 8 * 4 + 6, 7);
-        k.send(2, 4, 3);
-        check.heard(k, 2, 0, 0, 4, 0, -1);
-        check.is("the SLOT was filled meanwhile", 0, k.look(1, 8 + 8 * 4 + 6, 0));
-    }
-
-    private static void refusals(Check check) {
+    private static void refusedNumbersAndSlots(Check check) {
+        check.about("the capability at the ADDRESS with (-1 none)");
         check.refuses(Check.STATE, "none is CURRENT", Check.NONE_CURRENT, k -> k.send(-1, 0, -2));
         check.refuses(Check.ARGUMENT, "at -1", Check.NEW, k -> k.send(-1, 0, -1));
         check.refuses(Check.ARGUMENT, "at 72", Check.NEW, k -> k.send(72, 0, -1));
@@ -168,17 +143,22 @@ public final class Promise08SendTest {
         check.refuses(Check.ARGUMENT, "with 72", Check.NEW, k -> k.send(2, 0, 72));
         check.refuses(Check.NOTHING_THERE, "an empty SLOT", Check.NEW, k -> k.send(4, 0, -1));
         check.refuses(Check.NOTHING_THERE, "with an empty SLOT", Check.NEW, k -> k.send(2, 0, 4));
+        check.refuses(Check.NOTHING_THERE, "with no SLOT", Check.NEW, k -> k.send(2, 0, 8));
         check.refuses(Check.NOTHING_THERE, "with an empty SLOT, the wrong kind", Check.NEW, k -> k.send(3, 0, 4));
+    }
+
+    private static void refusedKinds(Check check) {
+        check.about("Sends by an ENDPOINT's capability");
+        check.refuses(Check.ARGUMENT, "an UNTYPED", Check.NEW, k -> k.send(1, 0, -1));
         check.refuses(Check.ARGUMENT, "a NOTIFICATION", Check.NEW, k -> k.send(3, 0, -1));
+        check.refuses(Check.ARGUMENT, "a TABLE", k -> k.retype(1, 3, 4), k -> k.send(4, 0, -1));
         check.refuses(Check.ARGUMENT, "an UNTYPED without RIGHTS", k -> k.copy(1, 4, 0), k -> k.send(4, 0, -1));
-        check.refuses(Check.RIGHTS, "without WRITE", k -> k.copy(2, 4, 5), k -> k.send(4, 0, -1));
-        check.refuses(Check.RIGHTS, "without GRANT", k -> k.copy(2, 4, 3), k -> k.send(4, 0, 3));
-        check.refuses(Check.RIGHTS, "GRANT without WRITE", k -> k.copy(2, 4, 4), k -> k.send(4, 0, 3));
+    }
+
+    private static void refusedServers(Check check) {
+        check.about("(a send to NAMES or FILES is IllegalStateException, a receive too)");
         check.refuses(Check.RIGHTS, "NAMES with one", Check.NEW, k -> k.send(0, 0, 3));
         check.refuses(Check.STATE, "NAMES", Check.NEW, k -> k.send(0, 105, -1));
         check.refuses(Check.STATE, "FILES", k -> k.call(0, 105), k -> k.send(5, 300, -1));
-        CapKernel k = new CapKernel();
-        k.copy(2, 4, 2);
-        check.is("WRITE alone, with none", 1, k.send(4, 0, -1));
     }
 }
