@@ -134,10 +134,11 @@ public final class EdgesMessagesTest {
         check.about("A capability that is gone meanwhile does not come.");
         CapKernel k = new CapKernel();
         Check.share(k, 3, 6);
-        Check.passTo(k, 2).send(2, 77, 6);
+        Check.passTo(k, 2).mint(2, 5, 6, 8);
+        k.send(5, 77, 6);
         check.is("taken back while 2 is SENDING", 2, Check.passTo(k, 1).revoke(3));
         check.is("the message comes", 0, k.receive(2, 7));
-        check.heard(k, 1, 0, 0, 77, 0, -1);
+        check.heard(k, 1, 0, 0, 77, 8, -1);
         check.isEmptyAt(k, 1, 7);
         check.heard(k, 2, 0, 0, 0, 0, 6);
     }

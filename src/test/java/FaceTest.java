@@ -20,6 +20,7 @@ public final class FaceTest {
             check.tell("the class is not public and final");
         }
         looksAtMethods(check);
+        looksAtExceptions(check);
         looksAtFields(check);
         for (Constructor<?> made : CapKernel.class.getDeclaredConstructors()) {
             if (!Modifier.isPublic(made.getModifiers()) || made.getParameterCount() != 0) {
@@ -53,6 +54,24 @@ public final class FaceTest {
         for (Method method : CapKernel.class.getDeclaredMethods()) {
             if (Modifier.isPrivate(method.getModifiers()) && names.contains(method.getName())) {
                 check.tell("a private method bears a public one's name: " + method);
+            }
+        }
+    }
+
+    private static void looksAtExceptions(Check check) {
+        TreeSet<String> due = new TreeSet<>(Arrays.asList("IllegalArgumentException", "NoSuchElementException",
+                "UnsupportedOperationException", "IllegalStateException"));
+        for (Method method : CapKernel.class.getMethods()) {
+            boolean throwsNone = method.getName().equals("current") || method.getName().equals("count");
+            if (method.getDeclaringClass() != CapKernel.class) {
+                continue;
+            }
+            TreeSet<String> found = new TreeSet<>();
+            for (Class<?> thrown : method.getExceptionTypes()) {
+                found.add(thrown.getSimpleName());
+            }
+            if (!found.equals(throwsNone ? new TreeSet<String>() : due)) {
+                check.tell("throws " + found + ": " + method);
             }
         }
     }

@@ -10,6 +10,7 @@ public final class GoneTest {
         sendersAreAborted(check);
         receiversAreAborted(check);
         waitersAreAborted(check);
+        theFirstOnesToo(check);
         nobodyElseIsAborted(check);
         outcomeOfTheNext(check);
         serversAreNeverGone(check);
@@ -163,6 +164,24 @@ public final class GoneTest {
         }
     }
 
+    private static void theFirstOnesToo(Check check) {
+        check.about("An object is gone when the last capability for it is");
+        // Only NAMES, FILES and ROOTS are never gone. Thread 1 waits by a capability that others can delete.
+        for (int slot = 2; slot <= 3; slot++) {
+            CapKernel k = new CapKernel();
+            k.retype(1, 3, 4);
+            Check.share(k, 4, 7);
+            k.move(slot, Check.in(4, 0));
+            check.is("1 waits", 1, slot == 2 ? k.receive(Check.in(4, 0), -1) : k.await(Check.in(4, 0)));
+            Check.passTo(k, 2).delete(slot);
+            Check.passTo(k, 3).delete(slot);
+            check.is("it waits still", slot == 2 ? 4 : 5, k.thread(1, 0));
+            check.is("the last one", 1, k.delete(Check.in(7, 0)));
+            check.heard(k, 1, 0, 1, 0, 0, 0);
+            check.is("1 comes last in the LINE", 2, k.pass());
+        }
+    }
+
     private static void nobodyElseIsAborted(Check check) {
         check.about("who waits at an ENDPOINT or NOTIFICATION that is gone is READY, with OUTCOME ABORTED");
         CapKernel n = new CapKernel();
@@ -188,17 +207,39 @@ public final class GoneTest {
 
     private static void outcomeOfTheNext(Check check) {
         check.about("the last OUTCOME of what it waited for: OK 0, ABORTED 1");
+        CapKernel n = withTwoAborted();
+        n.pass();
+        check.is("OUTCOME stays", 1, n.thread(2, 1));
+        n.signal(3);
+        Check.passTo(n, 2).await(3);
+        check.heard(n, 2, 0, 0, 1, 0, -1);
+        n = withTwoAborted();
+        n.await(3);
+        check.heard(n, 2, 5, 1, 0, 0, 5);
+        n.signal(3);
+        check.heard(n, 2, 0, 0, 1, 0, -1);
+        n = withTwoAborted();
+        n.receive(2, -1);
+        check.heard(n, 2, 4, 1, 0, 0, 5);
+        n.send(2, 6, -1);
+        check.heard(n, 2, 0, 0, 6, 0, -1);
+        n = withTwoAborted();
+        n.call(2, 7);
+        check.heard(n, 2, 2, 1, 0, 0, 5);
+        n.receive(2, -1);
+        check.heard(n, 2, 3, 1, 0, 0, 5);
+        n.answer(8);
+        check.heard(n, 2, 0, 0, 8, 0, -1);
+    }
+
+    /** Thread 2 is CURRENT, and what it waited for was ABORTED. */
+    private static CapKernel withTwoAborted() {
         CapKernel n = new CapKernel();
         n.retype(1, 2, 4);
         Check.share(n, 4, 5);
         Check.passTo(n, 2).await(5);
         Check.passTo(n, 1).revoke(1);
-        check.is("OUTCOME", 1, n.thread(2, 1));
-        Check.passTo(n, 2).pass();
-        check.is("OUTCOME stays", 1, n.thread(2, 1));
-        n.signal(3);
-        Check.passTo(n, 2).await(3);
-        check.heard(n, 2, 0, 0, 1, 0, -1);
+        return Check.passTo(n, 2);
     }
 
     private static void serversAreNeverGone(Check check) {

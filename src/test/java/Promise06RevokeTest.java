@@ -75,26 +75,21 @@ public final class Promise06RevokeTest {
     private static void youngestFirst(Check check) {
         check.about("(each time the youngest, the one made last, till there is none, or the capability itself is gone by"
                 + " it)");
-        CapKernel k = new CapKernel();
-        k.retype(1, 1, 4);
-        k.retype(1, 2, 5);
-        k.pass();
-        k.receive(2, 6);
-        k.receive(2, 6);
-        check.is("current()", 1, k.current());
-        k.send(2, 0, 5);
-        k.send(2, 0, 4);
-        check.is("2 waits at the NOTIFICATION", 2, k.pass());
-        k.await(6);
-        check.is("3 waits at the ENDPOINT", 3, k.current());
-        k.receive(6, -1);
-        // Each copy in a message is younger than what it is of: the ENDPOINT's is the youngest, then the
-        // NOTIFICATION's, then the two first ones, the NOTIFICATION's the younger: 2 is READY before 3.
-        check.is("revoke(1)", 4, k.revoke(1));
-        check.heard(k, 2, 0, 1, 0, 0, 6);
-        check.heard(k, 3, 0, 1, 0, 0, 6);
-        check.is("the first aborted", 2, k.pass());
-        check.is("the second aborted", 3, k.pass());
+        for (int older = 2; older <= 3; older++) {
+            CapKernel k = new CapKernel();
+            k.retype(1, 1, 4);
+            k.retype(1, 2, 5);
+            Check.share(k, 4, 4);
+            Check.share(k, 5, 5);
+            Check.passTo(k, older).receive(4, -1);
+            Check.passTo(k, 5 - older).await(5);
+            check.is("the copies, so that 1 alone has both objects", 4, k.revoke(4) + k.revoke(5));
+            check.is("the older object has been waited at for longer", 2, k.revoke(1));
+            check.heard(k, older, 0, 1, 0, 0, 5);
+            check.heard(k, 5 - older, 0, 1, 0, 0, 5);
+            check.is("the younger object first", 5 - older, k.pass());
+            check.is("then the older", older, k.pass());
+        }
     }
 
     private static void stopsWhenItselfIsGone(Check check) {

@@ -87,6 +87,18 @@ public final class Promise12SignalTest {
         check.is("two waited", 1, k.signal(3));
         check.is("one waited", 0, k.signal(3));
         check.is("none waited", 0, k.signal(3));
+        for (int first = 1; first <= 3; first++) {
+            for (int second = 1; second <= 3; second++) {
+                if (first != second) {
+                    CapKernel n = new CapKernel();
+                    Check.passTo(n, first).await(3);
+                    Check.passTo(n, second).await(3);
+                    check.is(second + " still waits", 1, n.signal(3));
+                    check.is("STATE of " + first, 0, n.thread(first, 0));
+                    check.is("STATE of " + second, 5, n.thread(second, 0));
+                }
+            }
+        }
     }
 
     private static void onlyItsOwn(Check check) {

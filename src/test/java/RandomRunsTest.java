@@ -11,6 +11,7 @@ public final class RandomRunsTest {
 
     public static void main(String[] args) {
         Check check = new Check("random runs");
+        check.about("and the exception that comes if it is not so (nothing changes then)");
         for (int seed = 0; seed < RUNS; seed++) {
             run(check, new Random(seed), "seed " + seed);
         }
